@@ -149,9 +149,9 @@ public final class PromisesTest {
     private static void promise5RemoveSaying() {
         ProverbCollection x = new ProverbCollection();
         due("5: none", x.removeSaying(0), -1);
-        saying(x, 30, 1, 1, 2, 3);
-        saying(x, 10, 2, 4);
-        saying(x, 20, 3, 5, 6);
+        saying(x, 15, 1, 1, 2, 3);
+        saying(x, 20, 2, 4);
+        saying(x, 10, 3, 5, 6);
         due("5: negative", x.removeSaying(-1), -1);
         due("5: too high", x.removeSaying(3), -1);
         due("5: least int", x.removeSaying(MIN), -1);
@@ -226,6 +226,12 @@ public final class PromisesTest {
             due("9: place " + place, x.byAge(place), order[place]);
         }
         due("9: behind the youngest", x.byAge(5), -4);
+        saying(x, 0, 0, 1);
+        int[] longer = {1, 4, 5, 0, 2, 3};
+        for (int place = 0; place < longer.length; place++) {
+            due("9: with one more, place " + place, x.byAge(place), longer[place]);
+        }
+        due("9: behind the youngest of six", x.byAge(6), -4);
         due("9: greatest int", x.byAge(MAX), -4);
         due("9: negative", x.byAge(-1), -1);
         due("9: least int", x.byAge(MIN), -1);
@@ -398,6 +404,9 @@ public final class PromisesTest {
         due("15: of equal years the lower number", x.nearest(4), 2);
         due("15: all far away", x.nearest(3), 2);
         due("15: greatest int", x.nearest(MAX), -1);
+        saying(x, -9, 0, 0, 4);
+        due("15: the oldest of all", x.nearest(0), 5);
+        due("15: it finds another one", x.nearest(5), 0);
     }
 
     private static void promise16AddPattern() {
@@ -541,6 +550,14 @@ public final class PromisesTest {
         due("21: slots of equals", x.bestPattern(2), 1);
         due("21: a word and a gap", x.bestPattern(3), 2);
         due("21: greatest int", x.bestPattern(MAX), -1);
+        ProverbCollection y = with(new int[] {1, 2, 3});
+        pattern(y, GAP, GAP);
+        pattern(y, 60, 61, 62);
+        due("21: fewer gaps with more slots", y.bestPattern(0), 1);
+        pattern(y, 60, 61, 62, GAP);
+        due("21: no gap before one", y.bestPattern(0), 1);
+        pattern(y, GAP, GAP, GAP, GAP, GAP, GAP, GAP, 3);
+        due("21: one word with seven gaps", y.bestPattern(0), 3);
     }
 
     private static void promise22SetLimit() {
@@ -628,6 +645,11 @@ public final class PromisesTest {
         due("26: equal regions count once", x.groupInfo(0, 1), 3);
         due("26: greatest distance of all", x.groupInfo(0, 2), 2);
         due("26: no such group", x.groupInfo(1, 0), -4);
+        ProverbCollection y = new ProverbCollection();
+        saying(y, 9, 0, 8);
+        saying(y, 8, 0, 0);
+        saying(y, 7, 0, 1);
+        due("26: the first saying is farthest", y.groupInfo(0, 2), 3);
         due("26: no such group, greatest int", x.groupInfo(MAX, 2), -4);
         due("26: group negative", x.groupInfo(-1, 0), -1);
         due("26: what negative", x.groupInfo(0, -1), -1);
@@ -670,6 +692,8 @@ public final class PromisesTest {
             new int[] {0, 4, 8, 12, 16, 20, 24, 2}, new int[] {0, 36, 40, 44, 48, 52, 56, 2});
         due("27: seven and one", x.crossingCost(2, 0, 1), 0);
         due("27: one and seven", x.crossingCost(3, 0, 1), 0);
+        saying(x, 9, 0, 0, 4, 8, 12, 16, 20, 24, 56);
+        due("27: no blend of nine words, cut or whole", x.crossingCost(4, 0, 1), 3);
         ProverbCollection y = with(new int[] {0, 4, 8, 12, 16, 20, 24}, new int[] {32, 36, 40, 44},
             new int[] {0, 4, 8, 12, 16, 20, 40, 44});
         due("27: six and two", y.crossingCost(2, 0, 1), 0);
@@ -742,14 +766,14 @@ public final class PromisesTest {
         due("29: addSaying", x.undo(), 0);
         due("29: it is gone", x.sayingCount(), 0);
         due("29: nothing left", x.undo(), -2);
-        saying(x, 30, 1, 1, 2, 3);
-        saying(x, 20, 2, 1, 2, 0);
+        saying(x, 20, 1, 1, 2, 3);
+        saying(x, 30, 1, 1, 2, 0);
         x.removeSaying(0);
         due("29: removeSaying", x.undo(), 2);
         words("29: its words are back", x, 0, 1, 2, 3);
         words("29: the other one too", x, 1, 1, 2, 0);
-        due("29: the years are back", x.byAge(0), 1);
-        due("29: the regions are back", x.groupInfo(0, 1), 2);
+        due("29: the years are back", x.byAge(0), 0);
+        due("29: the regions are back", x.groupInfo(0, 1), 1);
         pattern(x, 1, GAP);
         due("29: addPattern", x.undo(), 2);
         due("29: the pattern is gone", x.matchedSayings(0), -1);
