@@ -143,7 +143,8 @@ public final class PromisesTest {
         due("4: sayingCount", x.sayingCount(), 12);
         due("4: a refused one is no change", x.undo(), 4);
         due("4: the twelfth is undone", x.sayingCount(), 11);
-        due("4: room again", saying(x, 0, 0, 1), 11);
+        due("4: room again, for eight words", saying(x, 0, 0, 1, 2, 3, 4, 5, 6, 7, 8), 11);
+        words("4: the twelfth with eight words", x, 11, 1, 2, 3, 4, 5, 6, 7, 8);
     }
 
     private static void promise5RemoveSaying() {
@@ -407,6 +408,9 @@ public final class PromisesTest {
         saying(x, -9, 0, 0, 4);
         due("15: the oldest of all", x.nearest(0), 5);
         due("15: it finds another one", x.nearest(5), 0);
+        ProverbCollection all = full();
+        due("15: twelve sayings", all.nearest(0), 1);
+        due("15: the last of twelve", all.nearest(11), 8);
     }
 
     private static void promise16AddPattern() {
@@ -422,7 +426,7 @@ public final class PromisesTest {
         due("16: the buffer stays as it was", x.clear(), 3);
         due("16: full and empty buffer", x.addPattern(), -2);
         due("16: a refused one is no change", x.undo(), 4);
-        due("16: room again", pattern(x, 5), 5);
+        due("16: room again, for eight tokens", pattern(x, 5, GAP, GAP, GAP, GAP, GAP, GAP, GAP), 5);
         saying(x, 0, 0, 5);
         due("16: the new one counts", x.matchedSayings(5), 1);
     }
@@ -558,6 +562,9 @@ public final class PromisesTest {
         due("21: no gap before one", y.bestPattern(0), 1);
         pattern(y, GAP, GAP, GAP, GAP, GAP, GAP, GAP, 3);
         due("21: one word with seven gaps", y.bestPattern(0), 3);
+        ProverbCollection z = with(new int[] {1, 2, 3});
+        pattern(z, GAP, GAP, GAP, GAP, GAP, GAP, GAP, GAP);
+        due("21: nothing but gaps", z.bestPattern(0), 0);
     }
 
     private static void promise22SetLimit() {
