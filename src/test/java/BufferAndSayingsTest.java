@@ -217,7 +217,9 @@ public final class BufferAndSayingsTest {
         Make.saying(x, 10, 2, 4);
         Make.saying(x, 20, 3, 5, 6);
         Make.pattern(x, 1, GAP);
+        Make.fill(x, 7, 8);
         x.removeSaying(0);
+        due("the buffer stays", x.clear(), 2);
         Make.words("the second", x, 0, 4);
         Make.words("the third", x, 1, 5, 6);
         Make.order("two", x, 0, 1);

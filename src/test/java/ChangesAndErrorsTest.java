@@ -30,13 +30,14 @@ public final class ChangesAndErrorsTest {
     private static final Questions[] ALL_QUESTIONS = {
         ChangesAndErrorsTest::askSayings, ChangesAndErrorsTest::askPatterns, ChangesAndErrorsTest::askGroups,
         ChangesAndErrorsTest::askCosts, ChangesAndErrorsTest::askBufferForWords,
-        ChangesAndErrorsTest::askBufferForTokens, ChangesAndErrorsTest::askUndo,
+        ChangesAndErrorsTest::askBufferForTokens, ChangesAndErrorsTest::askUndo, askRegion(0), askRegion(1),
+        askRegion(2), askRegion(11),
     };
 
     /** All but the buffer and what can be undone: what the changes change. */
     private static final Questions[] STATE_QUESTIONS = {
         ChangesAndErrorsTest::askSayings, ChangesAndErrorsTest::askPatterns, ChangesAndErrorsTest::askGroups,
-        ChangesAndErrorsTest::askCosts,
+        ChangesAndErrorsTest::askCosts, askRegion(0), askRegion(1), askRegion(2), askRegion(11),
     };
 
     private static final Questions[] BUFFER_QUESTIONS = {
@@ -96,6 +97,22 @@ public final class ChangesAndErrorsTest {
             answers.add(x.setCost(cost, 5));
         }
         answers.add(x.setLimit(5));
+    }
+
+    /** The region of a saying is found by the one that makes no second one in its group. */
+    private static Questions askRegion(int saying) {
+        return (x, answers) -> {
+            for (int other = x.sayingCount() - 1; other >= 0; other--) {
+                answers.add(other == saying ? other : x.removeSaying(other));
+            }
+            x.setCost(ProverbCollection.INSERTING, 1);
+            x.setLimit(20);
+            for (int region = 0; region <= 9; region++) {
+                Make.saying(x, 0, region, 1);
+                answers.add(x.groupInfo(0, 1));
+                x.removeSaying(1);
+            }
+        };
     }
 
     private static void askBufferForWords(ProverbCollection x, List<Integer> answers) {

@@ -589,12 +589,15 @@ public final class DescriptionTest {
         }
     }
 
-    /** S lacks one word of a blend of nine words, and two of the longest ones that there are. */
+    /** S has eight words of a blend of nine, from which one inserted word would lead back to it. */
     private static void noBlendOfNine() {
         int[] a = Make.steps(8, 0, 4);
-        int[] b = Make.steps(8, 32, 3);
-        int[] s = Make.without(blend(a, 5, b, 4), 2);
-        due("eight of nine words", costOf(s, a, b), 4);
+        int[] b = {33, 34, 32, 36, 40, 44, 48, 52};
+        int[] want = {4, 4, 4, 2, 0, 0, 2, 4, 4};
+        for (int index = 0; index < 9; index++) {
+            int[] s = Make.without(blend(a, 5, b, 4), index);
+            due("nine words without number " + index, costOf(s, a, b), want[index]);
+        }
         due("eight of eight words", costOf(blend(a, 4, b, 4), a, b), 0);
     }
 

@@ -38,7 +38,9 @@ public final class DistancesTest {
 
     private static void setCostChangesOne() {
         ProverbCollection x = new ProverbCollection();
+        Make.fill(x, 7, 8);
         x.setCost(0, 9);
+        due("the buffer stays", x.clear(), 2);
         costsAre("behind the first", x, 9, 3, 1, 2);
         x.setCost(1, 8);
         costsAre("behind the second", x, 9, 8, 1, 2);

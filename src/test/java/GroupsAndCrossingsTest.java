@@ -28,7 +28,9 @@ public final class GroupsAndCrossingsTest {
     private static void setLimitChangesTheGroups() {
         ProverbCollection x = Make.with(row(0), row(1), row(4));
         due("by the limit 3", x.groupCount(), 1);
+        Make.fill(x, 7, 8);
         x.setLimit(2);
+        due("the buffer stays", x.clear(), 2);
         due("by the limit 2", x.groupCount(), 2);
         x.setLimit(0);
         due("by the limit 0", x.groupCount(), 3);
@@ -237,9 +239,24 @@ public final class GroupsAndCrossingsTest {
         y.setLimit(20);
         due("the distance 20", y.groupInfo(0, 2), 20);
         due("the distance 20 is the limit", y.groupInfo(0, 0), 2);
+        farthestIsFirstOrLast();
         y.setLimit(19);
         due("one beyond the limit", y.groupInfo(0, 0), 1);
         due("its distance does not count", y.groupInfo(0, 2), 0);
+    }
+
+    private static void farthestIsFirstOrLast() {
+        ProverbCollection x = new ProverbCollection();
+        Make.saying(x, 9, 0, 8);
+        for (int number = 1; number < 11; number++) {
+            Make.saying(x, 8, 0, 1);
+        }
+        Make.saying(x, 7, 0, 0);
+        due("the first saying is the farthest", x.groupInfo(0, 2), 3);
+        x.removeSaying(0);
+        due("one of the others is the farthest", x.groupInfo(0, 2), 1);
+        Make.saying(x, 9, 0, 8);
+        due("the last saying is the farthest", x.groupInfo(0, 2), 3);
     }
 
     private static void groupOrWhatOutOfRange() {
@@ -376,6 +393,10 @@ public final class GroupsAndCrossingsTest {
         ProverbCollection same = Make.with(row(0, 4, 0, 8), row(0, 8, 0, 4));
         Make.saying(same, 9, 0, 0, 4, 0, 4);
         due("A and B are different ones", same.crossing(2, 0), 1);
+        ProverbCollection itself = Make.with(row(0, 4), row(50, 51), row(0, 24), row(40, 41, 42, 43));
+        due("the youngest is asked first", itself.crossing(3, 20), -4);
+        due("the saying itself is neither A nor B", itself.crossing(2, 20), -4);
+        due("a younger one is neither A nor B", Make.with(row(0, 4), row(0, 24), row(20, 24)).crossing(1, 20), -4);
         ProverbCollection alone = Make.with(row(0, 4, 0, 24));
         Make.saying(alone, 9, 0, 0, 24);
         due("one alone is no pair", alone.crossing(1, 20), -4);
@@ -420,6 +441,25 @@ public final class GroupsAndCrossingsTest {
         due("the next A", y.crossing(3, 20), 100);
         y.removeSaying(0);
         due("the only pair left", y.crossing(2, 20), 1);
+        ProverbCollection z = Make.with(row(0, 40), row(0, 4, 8, 41), row(42, 12), row(43, 4, 8, 12), row(0, 4, 8, 12));
+        due("both of them the oldest", z.crossingCost(4, 0, 2), 4);
+        due("the younger A and the older B", z.crossingCost(4, 1, 2), 0);
+        due("the older A and the younger B", z.crossingCost(4, 0, 3), 0);
+        due("the older A is more than the older B", z.crossing(4, 20), 3);
+    }
+
+    private static void leastCostBeforeAge() {
+        ProverbCollection x = Make.with(row(0, 4), row(20, 25), row(21, 24), row(1, 4), row(0, 8), row(28, 24), row(0, 24));
+        due("the older B is dearer", x.crossingCost(6, 0, 1), 1);
+        due("the younger B is cheaper", x.crossing(6, 20), 2);
+        ProverbCollection y = Make.with(row(1, 4), row(20, 25), row(20, 24), row(0, 4), row(0, 24));
+        due("the oldest pair", y.crossingCost(4, 0, 1), 2);
+        due("a younger B", y.crossingCost(4, 0, 2), 1);
+        due("a younger A and a younger B", y.crossing(4, 20), 302);
+        y.removeSaying(3);
+        due("the cheaper one of the pairs left", y.crossing(3, 20), 2);
+        y.removeSaying(2);
+        due("the dearest pair left", y.crossing(2, 20), 1);
     }
 
     private static void crossingsOfFirstAndLast() {
@@ -608,6 +648,7 @@ public final class GroupsAndCrossingsTest {
                 olderOnes();
                 bestPairs();
                 olderABeforeOlderB();
+                leastCostBeforeAge();
             });
         Sentences.test(OF_A_SAYING, GroupsAndCrossingsTest::crossingsOfFirstAndLast);
         Sentences.test("`limit`: 0 to 20", GroupsAndCrossingsTest::leastAndGreatestLimitOfCrossings);

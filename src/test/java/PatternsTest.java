@@ -92,7 +92,9 @@ public final class PatternsTest {
     private static void numbersBehindARemovedOne() {
         for (int removed = 0; removed < 6; removed++) {
             ProverbCollection x = sixOfTwelve();
+            Make.fill(x, 7, GAP);
             x.removePattern(removed);
+            due("the buffer stays", x.clear(), 2);
             for (int number = 0; number < 5; number++) {
                 int before = number < removed ? number : number + 1;
                 due("matchedSayings of " + before + " without " + removed, x.matchedSayings(number), 1 << before);

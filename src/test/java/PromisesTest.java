@@ -314,8 +314,9 @@ public final class PromisesTest {
 
     /** A single word against words of another kind, over all costs: shares of many forms. */
     private static void promise12ManyShares() {
-        ProverbCollection x = with(new int[] {0, 4, 8}, new int[] {1}, new int[] {40, 5}, new int[] {2, 6, 10, 14, 18});
         for (int inserting = 1; inserting <= 9; inserting++) {
+            // one object for each, since nothing is promised behind 512 calls
+            ProverbCollection x = with(new int[] {0, 4, 8}, new int[] {1}, new int[] {40, 5}, new int[] {2, 6, 10, 14, 18});
             x.setCost(0, inserting);
             for (int replacing = 1; replacing <= 9; replacing++) {
                 x.setCost(1, replacing);
