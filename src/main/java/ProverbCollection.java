@@ -281,7 +281,7 @@ public final class ProverbCollection {
             return INVALID_ARGUMENT;
         }
         groups.form(now, edits);
-        return group < groups.count ? groups.centres[group] : NOT_FOUND;
+        return groups.centre(group);
     }
 
     public int groupInfo(int group, int what) {
@@ -419,14 +419,14 @@ public final class ProverbCollection {
         }
 
         private int token(int row, int index) {
-            return index >= 0 && index < size(row) ? tokens[row * MOST_TOKENS + index] : NONE;
+            return has(row) && index >= 0 && index < lengths[row] ? tokens[row * MOST_TOKENS + index] : NONE;
         }
 
         private int add(Sequence sequence) {
-            if (isFull()) {
+            int row = count;
+            if (row >= most) {
                 return NONE;
             }
-            int row = count;
             for (int index = 0; index < sequence.length; index++) {
                 tokens[row * MOST_TOKENS + index] = sequence.at(index);
             }
@@ -507,12 +507,16 @@ public final class ProverbCollection {
         }
 
         private boolean isOlder(int a, int b) {
-            return years[a] < years[b] || years[a] == years[b] && a < b;
+            return sayings.has(a) && sayings.has(b)
+                && (years[a] < years[b] || years[a] == years[b] && a < b);
         }
 
         private void sortByAge(int[] order) {
             for (int saying = 0; saying < sayings.count; saying++) {
-                order[place(saying)] = saying;
+                int place = place(saying);
+                if (place < order.length) {
+                    order[place] = saying;
+                }
             }
         }
     }
@@ -530,8 +534,9 @@ public final class ProverbCollection {
         }
 
         private void keep(State state) {
+            next = next < MOST_UNDOABLE ? next : 0;
             ring[next].copyFrom(state);
-            next = next + 1 < MOST_UNDOABLE ? next + 1 : 0;
+            next++;
             count = Math.min(count + 1, MOST_UNDOABLE);
         }
 
@@ -609,7 +614,7 @@ public final class ProverbCollection {
                 boolean keeps = kind == REPLACE && first.at(i - 1) == second.at(j - 1);
                 i -= kind == INSERT ? 0 : kind == SWAP ? 2 : 1;
                 j -= kind == REMOVE ? 0 : kind == SWAP ? 2 : 1;
-                if (!keeps) {
+                if (!keeps && listed < list.length) {
                     list[listed] = 100 * kind + 10 * i + j;
                     listed++;
                 }
@@ -617,7 +622,8 @@ public final class ProverbCollection {
         }
 
         private int lastStep(int i, int j, int[] costs) {
-            for (int kind = REPLACE; kind < SWAP; kind++) {
+            boolean inside = i >= 0 && i <= first.length && j >= 0 && j <= second.length;
+            for (int kind = REPLACE; inside && kind < SWAP; kind++) {
                 if (by(kind, i, j, costs) == table[i][j]) {
                     return kind;
                 }
@@ -710,19 +716,24 @@ public final class ProverbCollection {
             state.sortByAge(order);
             for (int place = 0; place < state.sayings.count; place++) {
                 int centre = order[place];
-                if (memberOf[centre] != NONE) {
+                if (!state.sayings.has(centre) || memberOf[centre] != NONE || count >= centres.length) {
                     continue;
                 }
                 centres[count] = centre;
                 // the centre comes first and joins by its distance 0, which no limit excludes
                 for (int later = place; later < state.sayings.count; later++) {
                     int saying = order[later];
-                    if (memberOf[saying] == NONE && edits.between(state, centre, saying) <= state.limit) {
+                    if (state.sayings.has(saying) && memberOf[saying] == NONE
+                        && edits.between(state, centre, saying) <= state.limit) {
                         memberOf[saying] = count;
                     }
                 }
                 count++;
             }
+        }
+
+        private int centre(int group) {
+            return group >= 0 && group < count ? centres[group] : NOT_FOUND;
         }
 
         private int members(State state, int group) {
@@ -747,7 +758,7 @@ public final class ProverbCollection {
             int greatest = 0;
             for (int saying = 0; saying < state.sayings.count; saying++) {
                 if (memberOf[saying] == group) {
-                    greatest = Math.max(greatest, edits.between(state, centres[group], saying));
+                    greatest = Math.max(greatest, edits.between(state, centre(group), saying));
                 }
             }
             return greatest;
