@@ -115,7 +115,8 @@ public final class IndexTest {
         JavaCompiler compiler = ToolProvider.getSystemJavaCompiler();
         List<MethodTree> found = new ArrayList<>();
         try (StandardJavaFileManager files = compiler.getStandardFileManager(null, null, null)) {
-            JavacTask task = (JavacTask) compiler.getTask(null, files, null, null, null, files.getJavaFileObjects(MAIN));
+            JavacTask task =
+                (JavacTask) compiler.getTask(null, files, null, null, null, files.getJavaFileObjects(MAIN));
             for (CompilationUnitTree unit : task.parse()) {
                 new TreeScanner<Void, Void>() {
                     @Override

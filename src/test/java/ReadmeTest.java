@@ -81,7 +81,7 @@ public final class ReadmeTest {
         exampleAnswers(text);
         allMethods(text);
         allConstants(text);
-        System.out.println(wrong == 0 ? "README.md tells of the class as it is" : wrong + " rows of README.md are wrong");
+        System.out.println(wrong == 0 ? "README.md tells of the class as it is" : wrong + " faults in README.md");
         if (wrong != 0) {
             System.exit(1);
         }
